@@ -132,11 +132,11 @@ public final class SerialDesk {
     }
 
     public boolean doom(int s) {
-        Transaction doomed = runningIn(s);
-        if (doomed == null) {
+        Transaction failing = runningIn(s);
+        if (failing == null) {
             return false;
         }
-        doomed.doomed = true;
+        failing.doomed = true;
         return true;
     }
 

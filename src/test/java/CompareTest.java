@@ -12,7 +12,9 @@ public final class CompareTest {
     private final int tables;
     private final int columns;
     private final int wrongOnceIn;
-    private final int endsOnceIn;
+    private final int abortsOnceIn;
+    /** In a crowded run session 0 never ends, and others come and go, so that many are kept. */
+    private final boolean crowded;
     private int begun = 0;
 
     private CompareTest(int run) {
@@ -20,7 +22,8 @@ public final class CompareTest {
         tables = 1 + pick(3) * pick(4);
         columns = 1 + pick(3);
         wrongOnceIn = 10 + pick(60);
-        endsOnceIn = 2 + pick(12);
+        abortsOnceIn = 2 + pick(12);
+        crowded = run % 3 == 0;
     }
 
     public static void main(String[] args) {
@@ -57,7 +60,7 @@ public final class CompareTest {
     }
 
     private int id() {
-        return wrongNow() ? pick(600) - 2 : Math.max(1, begun - pick(14));
+        return wrongNow() ? pick(600) - 2 : Math.max(1, begun - pick(crowded ? 90 : 14));
     }
 
     private long value() {
@@ -66,7 +69,9 @@ public final class CompareTest {
 
     private void step(String at) {
         int kind = pick(20);
-        if (kind < 3) {
+        if (crowded && pick(2) == 0) {
+            beginOrEnd(at, kind % 2 == 0);
+        } else if (kind < 3) {
             begin(at);
         } else if (kind < 6) {
             read(at);
@@ -78,6 +83,14 @@ public final class CompareTest {
             end(at);
         } else {
             ask(at);
+        }
+    }
+
+    private void beginOrEnd(String at, boolean begin) {
+        if (begin) {
+            begin(at);
+        } else {
+            end(at);
         }
     }
 
@@ -122,17 +135,23 @@ public final class CompareTest {
     }
 
     private void end(String at) {
-        int s = session();
-        int kind = pick(endsOnceIn);
-        if (kind == 0) {
-            CHECKS.due(at + "abort(" + s + ")", desk.abort(s), slow.abort(s));
-        } else if (kind == 1 && pick(4) == 0) {
+        int s = crowded ? 1 + pick(5) : session();
+        int kind = pick(abortsOnceIn * 4);
+        if (kind < 4) {
+            abort(at, s);
+        } else if (kind == 4) {
             CHECKS.due(at + "doom(" + s + ")", desk.doom(s), slow.doom(s));
         } else {
-            // One session is left alone in some runs, so that many are kept.
-            int t = endsOnceIn > 10 ? Math.max(s, 1) : s;
-            CHECKS.due(at + "commit(" + t + ")", desk.commit(t), slow.commit(t));
+            int want = slow.commit(s);
+            CHECKS.due(at + "commit(" + s + ")", desk.commit(s), want);
+            if (want == 0 && pick(4) > 0) {
+                abort(at, s);
+            }
         }
+    }
+
+    private void abort(String at, int s) {
+        CHECKS.due(at + "abort(" + s + ")", desk.abort(s), slow.abort(s));
     }
 
     private void ask(String at) {

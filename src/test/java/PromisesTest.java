@@ -51,6 +51,7 @@ public final class PromisesTest {
         promise11LookOfOthers();
         promise12ArrowNeedsBothKept();
         promise12SlotsAreNotInherited();
+        promise12ArrowsAmongAll64();
         promise13RingsAreNone();
         promise14CountTellsAll();
         CHECKS.end();
@@ -740,6 +741,36 @@ public final class PromisesTest {
         CHECKS.due("12 no arrow from a new one", desk.arrow(4, 3), false);
         desk.write(0, 0);
         CHECKS.due("12 no range of a new one", desk.arrow(4, 1), false);
+    }
+
+    private static void promise12ArrowsAmongAll64() {
+        SerialDesk desk = deskWith(1);
+        for (int id = 2; id <= 64; id++) {
+            desk.begin(1);
+            if (id % 3 == 0) {
+                desk.read(1, 0, -1, 0, 0, 0);
+            }
+            if (id < 64) {
+                desk.commit(1);
+            }
+        }
+        desk.write(0, 0);
+        CHECKS.due("12 readers", desk.look(1, 5), 21);
+        for (int id = 2; id <= 64; id++) {
+            CHECKS.due("12 from " + id, desk.arrow(id, 1), id % 3 == 0);
+        }
+        desk.doom(0);
+        for (int id = 2; id <= 64; id += 7) {
+            desk.miss(0, id);
+        }
+        for (int id = 1; id <= 64; id++) {
+            CHECKS.due("12 to " + id, desk.arrow(1, id), id % 7 == 2);
+        }
+        CHECKS.due("12 the first commit", desk.look(1, 4), 1);
+        desk.miss(0, 64);
+        desk.abort(1);
+        desk.begin(1);
+        CHECKS.due("12 the last slot anew", desk.arrow(1, 65), false);
     }
 
     private static void promise13RingsAreNone() {
