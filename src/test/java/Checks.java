@@ -1,6 +1,8 @@
 /** Counts answers that are not as due, for the tests of this project. */
 final class Checks {
     private final String test;
+    private String sentence = "";
+    private int askedOfSentence = 1;
     private int asked = 0;
     private int wrong = 0;
 
@@ -8,16 +10,29 @@ final class Checks {
         this.test = test;
     }
 
+    /** The words of the document by which the answers from here on are due. */
+    void sentence(String words) {
+        seeThatSentenceWasAsked();
+        sentence = " \"" + words + "\":";
+        askedOfSentence = 0;
+    }
+
     void due(String call, long got, long want) {
-        asked++;
-        if (got != want) {
-            wrong++;
-            System.out.println(test + ": " + call + " answered " + got + ", due is " + want);
-        }
+        due(call, Long.toString(got), Long.toString(want));
     }
 
     void due(String call, boolean got, boolean want) {
-        due(call, got ? 1L : 0L, want ? 1L : 0L);
+        due(call, Boolean.toString(got), Boolean.toString(want));
+    }
+
+    void due(String call, String got, String want) {
+        asked++;
+        askedOfSentence++;
+        if (!got.equals(want)) {
+            wrong++;
+            System.out.println(
+                    test + ":" + sentence + " " + call + " answered " + got + ", due is " + want);
+        }
     }
 
     int wrong() {
@@ -25,9 +40,17 @@ final class Checks {
     }
 
     void end() {
+        seeThatSentenceWasAsked();
         System.out.println(test + ": " + asked + " answers, " + wrong + " not as due");
         if (wrong != 0 || asked == 0) {
             System.exit(1);
+        }
+    }
+
+    private void seeThatSentenceWasAsked() {
+        if (askedOfSentence == 0) {
+            wrong++;
+            System.out.println(test + ":" + sentence + " nothing was asked");
         }
     }
 }

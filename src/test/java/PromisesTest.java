@@ -1,8 +1,6 @@
 /** Each promise of the document by itself: ordinary inputs, its edges, and wrong inputs. */
 public final class PromisesTest {
     private static final Checks CHECKS = new Checks("PromisesTest");
-    private static final int[] NO_SESSIONS = {-1, 6, Integer.MIN_VALUE, Integer.MAX_VALUE};
-    private static final int[] NO_TABLES = {-1, 8, Integer.MIN_VALUE, Integer.MAX_VALUE};
 
     public static void main(String[] args) {
         promise1NewObjectIsEmpty();
@@ -57,23 +55,6 @@ public final class PromisesTest {
         CHECKS.end();
     }
 
-    private static SerialDesk deskWith(int sessions) {
-        SerialDesk desk = new SerialDesk();
-        for (int s = 0; s < sessions; s++) {
-            desk.begin(s);
-        }
-        return desk;
-    }
-
-    /** Whether a read range is hit by a version with that one value. */
-    private static boolean hits(int bounds, long low, long high, long value) {
-        SerialDesk desk = deskWith(2);
-        desk.read(0, 2, 3, low, high, bounds);
-        desk.cell(3, value);
-        desk.write(1, 2);
-        return desk.arrow(1, 2);
-    }
-
     private static void promise1NewObjectIsEmpty() {
         SerialDesk desk = new SerialDesk();
         CHECKS.due("1 kept", desk.count(0), 0);
@@ -103,8 +84,8 @@ public final class PromisesTest {
     }
 
     private static void promise2BeginRefuses() {
-        SerialDesk desk = deskWith(1);
-        for (int s : NO_SESSIONS) {
+        SerialDesk desk = Desks.with(1);
+        for (int s : Desks.NO_SESSIONS) {
             CHECKS.due("2 no session", desk.begin(s), -1);
         }
         CHECKS.due("2 one runs", desk.begin(0), -1);
@@ -114,7 +95,7 @@ public final class PromisesTest {
     }
 
     private static void promise2BeginRefusesAt64Kept() {
-        SerialDesk desk = deskWith(1);
+        SerialDesk desk = Desks.with(1);
         for (int i = 0; i < 62; i++) {
             desk.begin(1);
             desk.commit(1);
@@ -133,7 +114,7 @@ public final class PromisesTest {
     }
 
     private static void promise3ReadCountsRanges() {
-        SerialDesk desk = deskWith(2);
+        SerialDesk desk = Desks.with(2);
         CHECKS.due("3 first", desk.read(0, 0, 0, 1, 2, 0), 1);
         CHECKS.due("3 second", desk.read(0, 0, 7, 1, 2, 0), 2);
         CHECKS.due("3 other table", desk.read(0, 7, 0, 1, 2, 15), 1);
@@ -145,7 +126,7 @@ public final class PromisesTest {
     }
 
     private static void promise3ReadKnowsSameRanges() {
-        SerialDesk desk = deskWith(1);
+        SerialDesk desk = Desks.with(1);
         desk.read(0, 0, 1, 5, 9, 0);
         CHECKS.due("3 same", desk.read(0, 0, 1, 5, 9, 0), 1);
         CHECKS.due("3 column", desk.read(0, 0, 2, 5, 9, 0), 2);
@@ -166,7 +147,7 @@ public final class PromisesTest {
     }
 
     private static void promise3NinthRangeBecomesWholeTable() {
-        SerialDesk desk = deskWith(2);
+        SerialDesk desk = Desks.with(2);
         for (int i = 0; i < 8; i++) {
             CHECKS.due("3 of eight", desk.read(0, 5, i, i, i, 0), i + 1);
         }
@@ -185,7 +166,7 @@ public final class PromisesTest {
     }
 
     private static void promise3WholeTableStopsOthers() {
-        SerialDesk desk = deskWith(1);
+        SerialDesk desk = Desks.with(1);
         CHECKS.due("3 all", desk.read(0, 0, -1, 5, 4, 15), 1);
         CHECKS.due("3 all again", desk.read(0, 0, -1, 7, 8, 0), 1);
         CHECKS.due("3 a part", desk.read(0, 0, 0, 7, 8, 0), 1);
@@ -199,28 +180,26 @@ public final class PromisesTest {
     }
 
     private static void promise3ReadRefuses() {
-        SerialDesk desk = deskWith(1);
-        for (int s : NO_SESSIONS) {
+        SerialDesk desk = Desks.with(1);
+        for (int s : Desks.NO_SESSIONS) {
             CHECKS.due("3 no session", desk.read(s, 0, 0, 0, 0, 0), -1);
         }
         CHECKS.due("3 none runs", desk.read(1, 0, 0, 0, 0, 0), -1);
-        for (int table : NO_TABLES) {
+        for (int table : Desks.NO_TABLES) {
             CHECKS.due("3 no table", desk.read(0, table, 0, 0, 0, 0), -1);
             CHECKS.due("3 all of no table", desk.read(0, table, -1, 0, 0, 0), -1);
         }
-        int[] noColumns = {-2, 8, Integer.MIN_VALUE, Integer.MAX_VALUE};
-        for (int column : noColumns) {
+        for (int column : Desks.NO_COLUMNS) {
             CHECKS.due("3 no column", desk.read(0, 0, column, 0, 0, 0), -1);
         }
-        int[] noBounds = {-1, 16, Integer.MIN_VALUE, Integer.MAX_VALUE};
-        for (int bounds : noBounds) {
+        for (int bounds : Desks.NO_BOUNDS) {
             CHECKS.due("3 no bounds", desk.read(0, 0, 0, 0, 0, bounds), -1);
         }
         CHECKS.due("3 nothing changed", desk.read(0, 0, 0, 0, 0, 0), 1);
     }
 
     private static void promise3RangesStayAfterCommit() {
-        SerialDesk desk = deskWith(2);
+        SerialDesk desk = Desks.with(2);
         desk.read(0, 0, 0, 0, 9, 0);
         desk.commit(0);
         CHECKS.due("3 none runs after commit", desk.read(0, 0, 0, 0, 9, 0), -1);
@@ -233,7 +212,7 @@ public final class PromisesTest {
 
     private static void promise4CellFillsOneColumn() {
         for (int column = 0; column < 8; column++) {
-            SerialDesk desk = deskWith(2);
+            SerialDesk desk = Desks.with(2);
             desk.read(0, 0, column, 5, 5, 0);
             for (int other = 0; other < 8; other++) {
                 if (other != column) {
@@ -249,7 +228,7 @@ public final class PromisesTest {
             desk.write(1, 0);
             CHECKS.due("4 the value", desk.arrow(1, 2), true);
         }
-        SerialDesk unbounded = deskWith(2);
+        SerialDesk unbounded = Desks.with(2);
         unbounded.read(0, 0, 0, 0, 0, 12);
         unbounded.write(1, 0);
         CHECKS.due("4 NULL is in none without bounds", unbounded.arrow(1, 2), false);
@@ -257,8 +236,7 @@ public final class PromisesTest {
 
     private static void promise4CellRefuses() {
         SerialDesk desk = new SerialDesk();
-        int[] noColumns = {-1, 8, Integer.MIN_VALUE, Integer.MAX_VALUE};
-        for (int column : noColumns) {
+        for (int column : Desks.NO_CELLS) {
             CHECKS.due("4 no column", desk.cell(column, 1), false);
         }
     }
@@ -269,33 +247,33 @@ public final class PromisesTest {
             boolean highOut = (bounds & 2) != 0;
             boolean noLow = (bounds & 4) != 0;
             boolean noHigh = (bounds & 8) != 0;
-            CHECKS.due("4 under low " + bounds, hits(bounds, 10, 20, 9), noLow);
-            CHECKS.due("4 at low " + bounds, hits(bounds, 10, 20, 10), noLow || !lowOut);
-            CHECKS.due("4 over low " + bounds, hits(bounds, 10, 20, 11), true);
-            CHECKS.due("4 under high " + bounds, hits(bounds, 10, 20, 19), true);
-            CHECKS.due("4 at high " + bounds, hits(bounds, 10, 20, 20), noHigh || !highOut);
-            CHECKS.due("4 over high " + bounds, hits(bounds, 10, 20, 21), noHigh);
+            CHECKS.due("4 under low " + bounds, Desks.hits(bounds, 10, 20, 9), noLow);
+            CHECKS.due("4 at low " + bounds, Desks.hits(bounds, 10, 20, 10), noLow || !lowOut);
+            CHECKS.due("4 over low " + bounds, Desks.hits(bounds, 10, 20, 11), true);
+            CHECKS.due("4 under high " + bounds, Desks.hits(bounds, 10, 20, 19), true);
+            CHECKS.due("4 at high " + bounds, Desks.hits(bounds, 10, 20, 20), noHigh || !highOut);
+            CHECKS.due("4 over high " + bounds, Desks.hits(bounds, 10, 20, 21), noHigh);
         }
     }
 
     private static void promise4ExtremesAreCompared() {
         long least = Long.MIN_VALUE;
         long most = Long.MAX_VALUE;
-        CHECKS.due("4 least", hits(0, least, most, least), true);
-        CHECKS.due("4 most", hits(0, least, most, most), true);
-        CHECKS.due("4 least is out", hits(1, least, most, least), false);
-        CHECKS.due("4 most is out", hits(2, least, most, most), false);
-        CHECKS.due("4 no wrap at low", hits(0, most, most, least), false);
-        CHECKS.due("4 no wrap at high", hits(0, least, least, most), false);
-        CHECKS.due("4 longs, not ints", hits(0, 1, 1, 1 + (1L << 32)), false);
-        CHECKS.due("4 low over high", hits(0, 6, 4, 5), false);
-        CHECKS.due("4 one point", hits(0, 5, 5, 5), true);
-        CHECKS.due("4 one point without low", hits(1, 5, 5, 5), false);
+        CHECKS.due("4 least", Desks.hits(0, least, most, least), true);
+        CHECKS.due("4 most", Desks.hits(0, least, most, most), true);
+        CHECKS.due("4 least is out", Desks.hits(1, least, most, least), false);
+        CHECKS.due("4 most is out", Desks.hits(2, least, most, most), false);
+        CHECKS.due("4 no wrap at low", Desks.hits(0, most, most, least), false);
+        CHECKS.due("4 no wrap at high", Desks.hits(0, least, least, most), false);
+        CHECKS.due("4 longs, not ints", Desks.hits(0, 1, 1, 1 + (1L << 32)), false);
+        CHECKS.due("4 low over high", Desks.hits(0, 6, 4, 5), false);
+        CHECKS.due("4 one point", Desks.hits(0, 5, 5, 5), true);
+        CHECKS.due("4 one point without low", Desks.hits(1, 5, 5, 5), false);
     }
 
     private static void promise5ClearMakesAllNull() {
         for (int column = 0; column < 8; column++) {
-            SerialDesk desk = deskWith(2);
+            SerialDesk desk = Desks.with(2);
             desk.read(0, 0, column, 0, 0, 12);
             for (int i = 0; i < 8; i++) {
                 desk.cell(i, 0);
@@ -307,7 +285,7 @@ public final class PromisesTest {
             desk.write(1, 0);
             CHECKS.due("5 filled anew", desk.arrow(1, 2), true);
         }
-        SerialDesk whole = deskWith(2);
+        SerialDesk whole = Desks.with(2);
         whole.read(0, 0, -1, 0, 0, 0);
         whole.clear();
         whole.write(1, 0);
@@ -315,7 +293,7 @@ public final class PromisesTest {
     }
 
     private static void promise6WriteDrawsArrowsToTheWriter() {
-        SerialDesk desk = deskWith(4);
+        SerialDesk desk = Desks.with(4);
         desk.read(0, 0, -1, 0, 0, 0);
         desk.read(1, 1, -1, 0, 0, 0);
         desk.read(2, 0, 4, 0, 0, 12);
@@ -333,7 +311,7 @@ public final class PromisesTest {
     }
 
     private static void promise6WriteLooksAtConcurrencyAlone() {
-        SerialDesk desk = deskWith(2);
+        SerialDesk desk = Desks.with(2);
         desk.read(1, 0, -1, 0, 0, 0);
         desk.commit(1);
         desk.begin(2);
@@ -353,7 +331,7 @@ public final class PromisesTest {
     }
 
     private static void promise6WriteDoomsTheWriter() {
-        SerialDesk desk = deskWith(3);
+        SerialDesk desk = Desks.with(3);
         desk.read(0, 0, -1, 0, 0, 0);
         desk.miss(1, 3);
         CHECKS.due("6 before the commit", desk.write(1, 1), false);
@@ -367,14 +345,14 @@ public final class PromisesTest {
     }
 
     private static void promise6WriteSparesIfReaderCommittedBefore() {
-        SerialDesk desk = deskWith(3);
+        SerialDesk desk = Desks.with(3);
         desk.read(0, 0, -1, 0, 0, 0);
         desk.miss(1, 3);
         desk.commit(0);
         desk.commit(2);
         CHECKS.due("6 A committed before B", desk.write(1, 0), false);
         CHECKS.due("6 the arrow is there", desk.arrow(1, 2), true);
-        SerialDesk other = deskWith(3);
+        SerialDesk other = Desks.with(3);
         other.read(0, 0, -1, 0, 0, 0);
         other.miss(1, 3);
         other.commit(2);
@@ -383,7 +361,7 @@ public final class PromisesTest {
     }
 
     private static void promise6WriteDoomsIfReaderIsTheTarget() {
-        SerialDesk desk = deskWith(2);
+        SerialDesk desk = Desks.with(2);
         desk.read(1, 0, -1, 0, 0, 0);
         desk.miss(0, 2);
         desk.commit(1);
@@ -392,21 +370,21 @@ public final class PromisesTest {
     }
 
     private static void promise6WriteRefuses() {
-        SerialDesk desk = deskWith(2);
+        SerialDesk desk = Desks.with(2);
         desk.read(0, 0, -1, 0, 0, 0);
         desk.doom(1);
-        for (int s : NO_SESSIONS) {
+        for (int s : Desks.NO_SESSIONS) {
             CHECKS.due("6 no session", desk.write(s, 0), false);
         }
         CHECKS.due("6 none runs", desk.write(2, 0), false);
-        for (int table : NO_TABLES) {
+        for (int table : Desks.NO_TABLES) {
             CHECKS.due("6 no table, though doomed", desk.write(1, table), false);
         }
         CHECKS.due("6 nothing changed", desk.look(2, 5), 0);
     }
 
     private static void promise7MissDrawsAnArrow() {
-        SerialDesk desk = deskWith(3);
+        SerialDesk desk = Desks.with(3);
         CHECKS.due("7 miss", desk.miss(0, 2), false);
         CHECKS.due("7 arrow", desk.arrow(1, 2), true);
         CHECKS.due("7 not the other way", desk.arrow(2, 1), false);
@@ -419,7 +397,7 @@ public final class PromisesTest {
     }
 
     private static void promise7MissDrawsNoneToSelfUnknownOrEarlier() {
-        SerialDesk desk = deskWith(3);
+        SerialDesk desk = Desks.with(3);
         desk.miss(0, 1);
         CHECKS.due("7 itself", desk.arrow(1, 1), false);
         desk.abort(2);
@@ -438,23 +416,23 @@ public final class PromisesTest {
     }
 
     private static void promise7MissDoomsAsFirstOfTwo() {
-        SerialDesk desk = deskWith(3);
+        SerialDesk desk = Desks.with(3);
         desk.miss(1, 3);
         desk.commit(2);
         CHECKS.due("7 the pivot runs", desk.miss(0, 2), true);
         CHECKS.due("7 the pivot is not doomed", desk.look(2, 1), 0);
-        SerialDesk other = deskWith(3);
+        SerialDesk other = Desks.with(3);
         other.miss(1, 3);
         other.commit(2);
         other.commit(1);
         CHECKS.due("7 the pivot committed after", other.miss(0, 2), true);
-        SerialDesk open = deskWith(3);
+        SerialDesk open = Desks.with(3);
         open.miss(1, 3);
         CHECKS.due("7 nobody committed", open.miss(0, 2), false);
     }
 
     private static void promise7MissSparesIfPivotCommittedBefore() {
-        SerialDesk desk = deskWith(3);
+        SerialDesk desk = Desks.with(3);
         desk.miss(1, 3);
         desk.commit(1);
         desk.commit(2);
@@ -464,27 +442,27 @@ public final class PromisesTest {
     }
 
     private static void promise7MissDoomsAsSecondOfTwo() {
-        SerialDesk desk = deskWith(3);
+        SerialDesk desk = Desks.with(3);
         desk.miss(0, 2);
         desk.commit(2);
         CHECKS.due("7 A runs", desk.miss(1, 3), true);
         CHECKS.due("7 A is not doomed", desk.look(1, 1), 0);
-        SerialDesk other = deskWith(3);
+        SerialDesk other = Desks.with(3);
         other.miss(0, 2);
         other.commit(2);
         other.commit(0);
         CHECKS.due("7 A committed after", other.miss(1, 3), true);
-        SerialDesk ring = deskWith(2);
+        SerialDesk ring = Desks.with(2);
         ring.miss(0, 2);
         ring.commit(0);
         CHECKS.due("7 A is B", ring.miss(1, 1), true);
-        SerialDesk open = deskWith(3);
+        SerialDesk open = Desks.with(3);
         open.miss(0, 2);
         CHECKS.due("7 B runs", open.miss(1, 3), false);
     }
 
     private static void promise7MissSparesIfFirstCommittedBefore() {
-        SerialDesk desk = deskWith(3);
+        SerialDesk desk = Desks.with(3);
         desk.miss(0, 2);
         desk.commit(0);
         desk.commit(2);
@@ -493,7 +471,7 @@ public final class PromisesTest {
     }
 
     private static void promise7MissDoomsAgain() {
-        SerialDesk desk = deskWith(3);
+        SerialDesk desk = Desks.with(3);
         CHECKS.due("7 first time", desk.miss(0, 2), false);
         desk.miss(1, 3);
         desk.commit(2);
@@ -503,7 +481,7 @@ public final class PromisesTest {
     }
 
     private static void promise7MissKnowsTargetNotKept() {
-        SerialDesk desk = deskWith(2);
+        SerialDesk desk = Desks.with(2);
         desk.miss(0, 2);
         desk.commit(1);
         desk.begin(2);
@@ -515,8 +493,8 @@ public final class PromisesTest {
     }
 
     private static void promise7MissRefuses() {
-        SerialDesk desk = deskWith(2);
-        for (int s : NO_SESSIONS) {
+        SerialDesk desk = Desks.with(2);
+        for (int s : Desks.NO_SESSIONS) {
             CHECKS.due("7 no session", desk.miss(s, 1), false);
         }
         CHECKS.due("7 none runs", desk.miss(2, 1), false);
@@ -524,7 +502,7 @@ public final class PromisesTest {
     }
 
     private static void promise8CommitNumbers() {
-        SerialDesk desk = deskWith(3);
+        SerialDesk desk = Desks.with(3);
         CHECKS.due("8 first", desk.commit(2), 1);
         CHECKS.due("8 not twice", desk.commit(2), -1);
         CHECKS.due("8 kept", desk.look(3, 0), 2);
@@ -537,7 +515,7 @@ public final class PromisesTest {
     }
 
     private static void promise8CommitDoomsRunningPivots() {
-        SerialDesk desk = deskWith(4);
+        SerialDesk desk = Desks.with(4);
         desk.miss(0, 2);
         desk.miss(1, 3);
         desk.miss(3, 3);
@@ -545,7 +523,7 @@ public final class PromisesTest {
         CHECKS.due("8 the pivot", desk.look(2, 1), 1);
         CHECKS.due("8 without an arrow to it", desk.look(4, 1), 0);
         CHECKS.due("8 the first", desk.look(1, 1), 0);
-        SerialDesk ring = deskWith(2);
+        SerialDesk ring = Desks.with(2);
         ring.miss(0, 2);
         ring.miss(1, 1);
         ring.commit(1);
@@ -553,14 +531,14 @@ public final class PromisesTest {
     }
 
     private static void promise8CommitSparesIfFirstCommittedBefore() {
-        SerialDesk desk = deskWith(3);
+        SerialDesk desk = Desks.with(3);
         desk.miss(0, 2);
         desk.miss(1, 3);
         desk.commit(0);
         desk.commit(2);
         CHECKS.due("8 A committed before", desk.look(2, 1), 0);
         CHECKS.due("8 the pivot commits", desk.commit(1), 3);
-        SerialDesk early = deskWith(3);
+        SerialDesk early = Desks.with(3);
         early.miss(0, 2);
         early.miss(1, 3);
         early.commit(1);
@@ -569,7 +547,7 @@ public final class PromisesTest {
     }
 
     private static void promise8CommitOfDoomedChangesNothing() {
-        SerialDesk desk = deskWith(3);
+        SerialDesk desk = Desks.with(3);
         desk.miss(1, 1);
         desk.doom(0);
         CHECKS.due("8 doomed", desk.commit(0), 0);
@@ -582,8 +560,8 @@ public final class PromisesTest {
     }
 
     private static void promise8CommitRefuses() {
-        SerialDesk desk = deskWith(1);
-        for (int s : NO_SESSIONS) {
+        SerialDesk desk = Desks.with(1);
+        for (int s : Desks.NO_SESSIONS) {
             CHECKS.due("8 no session", desk.commit(s), -1);
         }
         CHECKS.due("8 none runs", desk.commit(1), -1);
@@ -591,7 +569,7 @@ public final class PromisesTest {
     }
 
     private static void promise9AbortForgets() {
-        SerialDesk desk = deskWith(3);
+        SerialDesk desk = Desks.with(3);
         desk.miss(0, 2);
         desk.miss(1, 3);
         CHECKS.due("9 abort", desk.abort(0), true);
@@ -600,7 +578,7 @@ public final class PromisesTest {
         CHECKS.due("9 no arrow from it", desk.look(2, 5), 0);
         desk.commit(2);
         CHECKS.due("9 no danger by it", desk.look(2, 1), 0);
-        SerialDesk target = deskWith(2);
+        SerialDesk target = Desks.with(2);
         target.miss(0, 2);
         target.abort(1);
         CHECKS.due("9 no commit", target.count(2), 0);
@@ -609,7 +587,7 @@ public final class PromisesTest {
     }
 
     private static void promise9AbortLeavesOthersDoomed() {
-        SerialDesk desk = deskWith(3);
+        SerialDesk desk = Desks.with(3);
         desk.miss(0, 2);
         desk.miss(1, 3);
         desk.commit(2);
@@ -621,7 +599,7 @@ public final class PromisesTest {
     }
 
     private static void promise9AbortFreesCommitted() {
-        SerialDesk desk = deskWith(2);
+        SerialDesk desk = Desks.with(2);
         desk.commit(1);
         desk.begin(2);
         CHECKS.due("9 kept for the first", desk.look(2, 0), 2);
@@ -631,8 +609,8 @@ public final class PromisesTest {
     }
 
     private static void promise9AbortRefuses() {
-        SerialDesk desk = deskWith(1);
-        for (int s : NO_SESSIONS) {
+        SerialDesk desk = Desks.with(1);
+        for (int s : Desks.NO_SESSIONS) {
             CHECKS.due("9 no session", desk.abort(s), false);
         }
         CHECKS.due("9 none runs", desk.abort(1), false);
@@ -640,7 +618,7 @@ public final class PromisesTest {
     }
 
     private static void promise10DoomForbidsCommit() {
-        SerialDesk desk = deskWith(2);
+        SerialDesk desk = Desks.with(2);
         CHECKS.due("10 doom", desk.doom(0), true);
         CHECKS.due("10 doomed", desk.look(1, 1), 1);
         CHECKS.due("10 another is not", desk.look(2, 1), 0);
@@ -650,8 +628,8 @@ public final class PromisesTest {
     }
 
     private static void promise10DoomRefuses() {
-        SerialDesk desk = deskWith(1);
-        for (int s : NO_SESSIONS) {
+        SerialDesk desk = Desks.with(1);
+        for (int s : Desks.NO_SESSIONS) {
             CHECKS.due("10 no session", desk.doom(s), false);
         }
         CHECKS.due("10 none runs", desk.doom(1), false);
@@ -659,7 +637,7 @@ public final class PromisesTest {
     }
 
     private static void promise11LookTellsAll() {
-        SerialDesk desk = deskWith(3);
+        SerialDesk desk = Desks.with(3);
         desk.commit(2);
         desk.begin(2);
         desk.miss(1, 1);
@@ -677,7 +655,7 @@ public final class PromisesTest {
     }
 
     private static void promise11LookTellsTheFirstCommit() {
-        SerialDesk desk = deskWith(4);
+        SerialDesk desk = Desks.with(4);
         desk.miss(0, 4);
         desk.commit(2);
         desk.commit(3);
@@ -687,7 +665,7 @@ public final class PromisesTest {
         desk.miss(0, 2);
         desk.commit(1);
         CHECKS.due("11 not a later one", desk.look(1, 4), 1);
-        SerialDesk late = deskWith(3);
+        SerialDesk late = Desks.with(3);
         late.read(0, 0, -1, 0, 0, 0);
         late.commit(0);
         late.write(1, 0);
@@ -696,7 +674,7 @@ public final class PromisesTest {
     }
 
     private static void promise11LookOfOthers() {
-        SerialDesk desk = deskWith(2);
+        SerialDesk desk = Desks.with(2);
         desk.commit(1);
         desk.commit(0);
         int[] notKept = {1, 2, 3, 0, -1, Integer.MIN_VALUE, Integer.MAX_VALUE};
@@ -714,7 +692,7 @@ public final class PromisesTest {
     }
 
     private static void promise12ArrowNeedsBothKept() {
-        SerialDesk desk = deskWith(2);
+        SerialDesk desk = Desks.with(2);
         desk.miss(0, 2);
         desk.commit(1);
         CHECKS.due("12 both kept", desk.arrow(1, 2), true);
@@ -731,7 +709,7 @@ public final class PromisesTest {
     }
 
     private static void promise12SlotsAreNotInherited() {
-        SerialDesk desk = deskWith(3);
+        SerialDesk desk = Desks.with(3);
         desk.miss(0, 2);
         desk.miss(1, 3);
         desk.read(1, 0, -1, 0, 0, 0);
@@ -744,7 +722,7 @@ public final class PromisesTest {
     }
 
     private static void promise12ArrowsAmongAll64() {
-        SerialDesk desk = deskWith(1);
+        SerialDesk desk = Desks.with(1);
         for (int id = 2; id <= 64; id++) {
             desk.begin(1);
             if (id % 3 == 0) {
@@ -774,7 +752,7 @@ public final class PromisesTest {
     }
 
     private static void promise13RingsAreNone() {
-        SerialDesk desk = deskWith(2);
+        SerialDesk desk = Desks.with(2);
         CHECKS.due("13 none", desk.rings(), 0);
         desk.miss(0, 2);
         desk.miss(1, 1);
@@ -786,7 +764,7 @@ public final class PromisesTest {
     }
 
     private static void promise14CountTellsAll() {
-        SerialDesk desk = deskWith(4);
+        SerialDesk desk = Desks.with(4);
         desk.commit(0);
         desk.abort(1);
         CHECKS.due("14 kept", desk.count(0), 3);
